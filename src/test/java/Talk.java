@@ -1,0 +1,31 @@
+import java.util.List;
+
+/** Ways of handing packets to an object that many tests share. */
+final class Talk {
+    private Talk() { }
+
+    static void addAll(LacedSound x, List<Integer> bytes) {
+        for (int from = 0; from < bytes.size(); from += 8) {
+            int n = Math.min(8, bytes.size() - from);
+            x.add(Pages.word(bytes, from, n), n);
+        }
+    }
+
+    /** Adds n bytes of 7 each. */
+    static void fill(LacedSound x, int n) {
+        for (int k = 0; k < n; k++) {
+            x.add(7, 1);
+        }
+    }
+
+    /** Sends a packet in a page of its own and brings it in hand; answers whether it is. */
+    static boolean bring(LacedSound x, int stream, int time, boolean last, List<Integer> packet) {
+        addAll(x, packet);
+        return x.send(stream, time) == 0 && x.flush(stream, last) > 0 && x.next() == 3;
+    }
+
+    /** Brings a packet in hand on stream 0 and takes it; answers what take answers. */
+    static int tell(LacedSound x, Bits packet) {
+        return bring(x, 0, 0, false, packet.bytes()) ? x.take() : -2;
+    }
+}
