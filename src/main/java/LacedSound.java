@@ -461,6 +461,7 @@ public final class LacedSound {
         }
     }
 
+    /** What a page gave; the time, the closing and the packet count for a PACKET alone. */
     private static final class Event {
         private int kind = NOTHING;
         private int amount;
@@ -710,6 +711,7 @@ public final class LacedSound {
         }
     }
 
+    /** A codebook: the codewords of its entries and, if it has them, their vectors. */
     private static final class Book {
         private static final int ENTRIES = 8;
         private static final int DIMENSIONS = 4;
@@ -757,8 +759,10 @@ public final class LacedSound {
                 if (count > left) {
                     return false;
                 }
-                Arrays.fill(lengths, done, done + count, length);
-                done += count;
+                for (int k = 0; k < count; k++) {
+                    lengths[done] = length;
+                    done++;
+                }
             }
             return done == entries;
         }
@@ -958,13 +962,13 @@ public final class LacedSound {
                 numbers[k] = Math.min(bits.read(NUMBER_BITS[grain]), RANGES[grain] - 1);
             }
             int point = 2;
-            for (int k = 0; k < parts && !bits.out; k++) {
+            for (int k = 0; k < parts; k++) {
                 int kind = partClass[k];
                 int choice = split[kind] ? books[master[kind]].readEntry(bits) : 0;
-                for (int i = 0; i < classSize[kind] && !bits.out; i++) {
-                    int book = subbooks[kind * SUBBOOKS + choice % 2];
+                for (int i = 0; i < classSize[kind] && choice != NONE; i++) {
+                    int book = subbooks[kind * SUBBOOKS + choice % SUBBOOKS];
                     numbers[point] = book == NONE ? 0 : books[book].readEntry(bits);
-                    choice /= 2;
+                    choice /= SUBBOOKS;
                     point++;
                 }
             }
@@ -991,8 +995,10 @@ public final class LacedSound {
                 int onLine = heightBetween(left, right, places[k], 1);
                 heights[k] = heightOf(numbers[k], onLine);
                 set[k] = numbers[k] != 0;
-                set[left] |= set[k];
-                set[right] |= set[k];
+                if (set[k]) {
+                    set[left] = true;
+                    set[right] = true;
+                }
             }
         }
 
