@@ -755,7 +755,7 @@ public final class LacedSound {
             int done = 0;
             for (; done < entries && length <= LONGEST; length++) {
                 int left = entries - done;
-                int count = bits.read(32 - Integer.numberOfLeadingZeros(left));
+                int count = bits.read(binaryDigits(left));
                 if (count > left) {
                     return false;
                 }
@@ -765,6 +765,14 @@ public final class LacedSound {
                 }
             }
             return done == entries;
+        }
+
+        private static int binaryDigits(int number) {
+            int digits = 1;
+            for (int rest = number / 2; rest > 0; rest /= 2) {
+                digits++;
+            }
+            return digits;
         }
 
         private boolean readVectors(Hand bits) {

@@ -82,6 +82,10 @@ public final class SoundTest {
         Talk.tell(x, flat(shortSound(), 4).put(0, 1));
         CHECK.due("block() with channel 0 used", x.block(), 8);
         CHECK.due("the curve of a channel that is not used any more", x.curve(1, 3), 0);
+        LacedSound y = with(Packets.format(1, 0, 1).put(-1, 3), Packets.evenBook(1, 1), noValues(Packets.bareCurve(0, 0)));
+        Talk.tell(y, longSound(0).put(0, 4));
+        CHECK.due("bits behind a FORMAT count for nothing", y.curve(0, 8), -1);
+        CHECK.due("the last place of its long block", y.curve(0, 7), 0);
     }
 
     private static void wrongPlaces() {
@@ -135,6 +139,10 @@ public final class SoundTest {
         // At 4 the line from 0 to 1 has 0; so 2 is 2, and 8 is SET at height 1.
         Talk.tell(x, shortSound().put(1, 1).put(0, 4).put(3, 4).word("000").word("010"));
         curveIs(x, 0, 0, 1, 2, 3, 4, 4, 3, 3, 2, 2, 3, 3, 4, 4, 5, 5, 6);
+        // At 12 the line from 1 to 3 has 2; so 2 is 3, and 8 is SET as the left one.
+        LacedSound y = curveOf(onePart(1, 2, 8, 12));
+        Talk.tell(y, shortSound().put(1, 1).put(0, 4).put(3, 4).word("000").word("010"));
+        curveIs(y, 0, 0, 0, 0, 0, 1, 1, 1, 1, 2, 3, 4, 5, 6, 6, 6, 6, 6);
     }
 
     private static void heightsAtTheEdges() {
@@ -270,6 +278,11 @@ public final class SoundTest {
         CHECK.due("block()", x.block(), 16);
         valuesAre("MODE 2", x, 0, 0, -3, -1, 1, 3, 3, -1, 0);
         valuesAre("MODE 2", x, 1, 0, -1, 3, -3, 1, 1, 3, 0);
+        // Both passes: what is in a cell stays and grows.
+        LacedSound y = valuesWith(2, values(2, 0, 2, 2, 1).put(3, 2).put(1, 2).put(2, 2).put(0, 1));
+        Talk.tell(y, flat(shortSound(), 1).put(0, 1).word("00").word("11").word("1").word("0"));
+        valuesAre("MODE 2 in two passes", y, 0, 3 + 10, 0);
+        valuesAre("MODE 2 in two passes", y, 1, 1 + 1, 0);
         Talk.tell(x, shortSound().put(0, 2).put(-1, 20));
         valuesAre("MODE 2 with no channel ON", x, 0, 0, 0, 0, 0, 0, 0, 0, 0);
         CHECK.due("block()", x.block(), 0);
