@@ -1,6 +1,8 @@
 /** Counts the answers of one test and tells those that are not the ones due. */
 final class Check {
     private final String name;
+    private String sentence = "";
+    private int sentences;
     private int asked;
     private int wrong;
 
@@ -8,11 +10,17 @@ final class Check {
         this.name = name;
     }
 
+    /** The words of the document that the next answers belong to. */
+    void sentence(String words) {
+        sentence = " \"" + words + "\"";
+        sentences++;
+    }
+
     void due(String what, long got, long want) {
         asked++;
         if (got != want) {
             wrong++;
-            System.out.println(name + ": " + what + " answered " + got + ", due is " + want);
+            System.out.println(name + ":" + sentence + " " + what + " answered " + got + ", due is " + want);
         }
     }
 
@@ -22,7 +30,8 @@ final class Check {
 
     /** Ends the program with exit code 1 if an answer was wrong. */
     void end() {
-        System.out.println(name + ": " + asked + " answers, " + wrong + " wrong");
+        String told = sentences == 0 ? "" : sentences + " sentences, ";
+        System.out.println(name + ": " + told + asked + " answers, " + wrong + " wrong");
         System.exit(wrong == 0 && asked > 0 ? 0 : 1);
     }
 }

@@ -1,4 +1,4 @@
-/** Promise 1. */
+/** Promise 1, part by part of its sentence. */
 public final class NewObjectTest {
     public static void main(String[] args) {
         Check check = new Check("NewObjectTest");
@@ -26,8 +26,42 @@ public final class NewObjectTest {
         check.due("the first of four pages is at place 0", x.wire(0), 76);
         check.due("add with nothing at hand", x.add(1, 1), 1);
         apart(check);
+        readPlace(check);
+        nothingWaits(check);
+        noStream(check);
         withoutFormat(check);
         check.end();
+    }
+
+    private static void readPlace(Check check) {
+        check.sentence("An empty wire, the read place 0");
+        LacedSound x = new LacedSound();
+        x.raw(0, 1);
+        check.due("alter(0, 76)", x.alter(0, 76), true);
+        check.due("next() at place 0, which is OPEN", x.next(), 0);
+        check.due("cut(0, 1)", x.cut(0, 1), true);
+    }
+
+    private static void nothingWaits(Check check) {
+        check.sentence("no bytes at hand, nothing waits in the writer's streams");
+        for (int stream = 0; stream < 4; stream++) {
+            LacedSound x = new LacedSound();
+            check.due("send of nothing", x.send(stream, 0), 0);
+            check.due("flush of that packet alone", x.flush(stream, false), 1);
+            check.due("its lacing value", x.wire(14), 0);
+            check.due("length()", x.length(), 15);
+        }
+    }
+
+    private static void noStream(Check check) {
+        check.sentence("the reader knows no stream");
+        LacedSound x = new LacedSound();
+        for (int serial = 0; serial < 3; serial++) {
+            Pages.put(x, Pages.counting(Pages.CONTINUED, serial, 50, 1));
+        }
+        check.due("three pages of any number give no event", x.next(), 0);
+        Pages.put(x, Pages.counting(0, 3, 0, 1));
+        check.due("the fourth is a STRANGER", x.next(), 5);
     }
 
     private static void apart(Check check) {

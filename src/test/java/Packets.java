@@ -54,4 +54,37 @@ final class Packets {
     static Bits plainSetup() {
         return values(bareCurve(0, 0), 1, 0, 0, 1, 1, 0).put(0, 2).put(0, 1);
     }
+
+    /** A SOUND of a short block, up to its channels. */
+    static Bits shortSound() {
+        return new Bits().put(0, 2);
+    }
+
+    /** A SOUND of a long block, up to its channels; bit 0 of wings is the first one. */
+    static Bits longSound(int wings) {
+        return new Bits().put(2, 2).put(wings, 2);
+    }
+
+    /** Adds a channel that is used, whose points 0 and 1 have these numbers; for G = 0. */
+    static Bits channel(Bits sound, int first, int second) {
+        return sound.put(1, 1).put(first, 5).put(second, 5);
+    }
+
+    /**
+     * Brings an object on stream 0 to where there is a bit of everything: a FORMAT of two channels
+     * with blocks of 8 and 16, three books (one without vectors), a JOINED setup, two blocks.
+     */
+    static void live(LacedSound x) {
+        Bits curve = new Bits().put(5, 8).put(0, 2).put(1, 2).put(0, 1).put(1, 2).put(0, 1).put(1, 3).put(1, 2).put(2, 3).put(5, 3);
+        Bits setup = values(curve, 1, 1, 7, 2, 2, 0).put(1, 2).put(3, 2).put(1, 2).put(2, 2).put(1, 2).put(1, 1);
+        Bits longer = channel(longSound(1), 20, 9).word("101").word("010").put(0, 1).put(0x5A3C96, 24).put(0x35, 8);
+        Bits shorter = channel(shortSound(), 7, 17).word("001").word("110");
+        Talk.tell(x, format(2, 0, 1));
+        Talk.tell(x, evenBook(2, 3));
+        Talk.tell(x, vectors(even(2, 1), 2, -3, 2, 0, 2, 1, 3, 2, 0));
+        Talk.tell(x, vectors(lengths(1, 1, 2, 2), 1, -1, 3, 0, 2, 2, 0, 3));
+        Talk.tell(x, setup);
+        Talk.tell(x, longer);
+        Talk.tell(x, channel(shorter, 3, 4).word("000").word("111").put(0x2D71, 16).put(0, 1));
+    }
 }

@@ -1,3 +1,4 @@
+import java.util.Collections;
 import java.util.List;
 
 /** Ways of handing packets to an object that many tests share. */
@@ -13,9 +14,12 @@ final class Talk {
 
     /** Adds n bytes of 7 each. */
     static void fill(LacedSound x, int n) {
-        for (int k = 0; k < n; k++) {
-            x.add(7, 1);
-        }
+        addAll(x, Collections.nCopies(n, 7));
+    }
+
+    /** Puts bytes of 0 on the wire until it has a length. */
+    static void fillWire(LacedSound x, int length) {
+        Pages.put(x, Collections.nCopies(length - x.length(), 0));
     }
 
     /** Sends a packet in a page of its own and brings it in hand; answers whether it is. */
