@@ -18,12 +18,14 @@ public final class BookEdgesTest {
         sizes();
         sparse();
         lengthsOfOrdered();
+        allUsedThen();
         countsOfOrdered();
         lengthAboveEight();
         kinds();
         rootOfEntries();
         numbersOfKindTwo();
         leastAndGreatestNumbers();
+        sumOfComponents();
         codewords();
         sums();
         oneUsedEntry();
@@ -129,6 +131,19 @@ public final class BookEdgesTest {
                     CHECK.due("the length of entry " + e, 31 - Integer.numberOfLeadingZeros(x.entry(0, e)), lengths[e]);
                 }
                 CHECK.due("with KIND 3 behind", take(new LacedSound(), orderedBook(first, lengths).put(3, 2).put(0, 40)), 0);
+            }
+        }
+    }
+
+    private static void allUsedThen() {
+        CHECK.sentence("(All entries are used then.)");
+        for (int[] lengths : ORDERED) {
+            LacedSound x = new LacedSound();
+            // Behind a refused book that left its entries without a use.
+            CHECK.due("a refused one", take(x, Packets.book(1, 8, 0).put(1, 1).put(0, 8).put(0, 2)), 0);
+            take(x, orderedBook(1, lengths).put(0, 2));
+            for (int e = 0; e < lengths.length; e++) {
+                CHECK.due("entry " + e + " of " + lengths.length, x.entry(0, e) > 0, true);
             }
         }
     }
@@ -275,6 +290,18 @@ public final class BookEdgesTest {
         }
     }
 
+    private static void sumOfComponents() {
+        CHECK.sentence("Component i (0 .. D - 1) of the VECTOR of entry e is MIN + STEP * number, and, if SUM and i > 0, component i - 1 besides.");
+        // MIN is -1 and STEP is 2; numbers 0 1 2 3 make -1 1 3 5.
+        int[][] due = {{-1, 1, 3, 5, 5, 3, 1, -1}, {-1, 0, 3, 8, 5, 8, 9, 8}};
+        for (int sum = 0; sum < 2; sum++) {
+            LacedSound x = allVectors("SUM " + sum, Packets.vectors(Packets.even(4, 1), 2, -1, 2, sum, 2, 0, 1, 2, 3, 3, 2, 1, 0), 4, 2);
+            for (int k = 0; k < 8; k++) {
+                CHECK.due("SUM " + sum + ": component " + k % 4 + " of entry " + k / 4, x.value(0, k), due[sum][k]);
+            }
+        }
+    }
+
     /** The least words of these lengths, as the sentence says it; null where none is free. */
     private static List<String> leastWords(int[] lengths) {
         List<String> given = new ArrayList<>();
@@ -322,6 +349,7 @@ public final class BookEdgesTest {
         refused("less than 1 by 1 / 256", Packets.lengths(1, 8, 7, 6, 5, 4, 3, 2, 1).put(0, 2));
         refused("less than 1 by 1 / 128", Packets.lengths(1, 1, 2, 3, 4, 5, 6, 7).put(0, 2));
         refused("above 1 by 1 / 256", Packets.lengths(1, 1, 1, 8).put(0, 2));
+        refused("above 1 by 1 / 128", Packets.lengths(1, 1, 1, 8, 8).put(0, 2));
         refused("above 1 by 1 / 256, at the end", Packets.lengths(1, 2, 2, 2, 2, 8).put(0, 2));
         refused("eight of length 1", Packets.lengths(1, 1, 1, 1, 1, 1, 1, 1, 1).put(0, 2));
         refused("eight of length 8", Packets.lengths(1, 8, 8, 8, 8, 8, 8, 8, 8).put(0, 2));
@@ -343,6 +371,11 @@ public final class BookEdgesTest {
                 }
             }
         }
+        // A refused book leaves nothing behind that would count as another used entry.
+        LacedSound x = new LacedSound();
+        CHECK.due("a refused book", take(x, Packets.lengths(1, 2, 2).put(0, 2)), 0);
+        CHECK.due("one used entry behind it", take(x, Packets.lengths(1, 1).put(0, 2)), 3);
+        CHECK.due("entry(0, 0)", x.entry(0, 0), 2);
         refused("one entry of length 2", Packets.lengths(1, 2).put(0, 2));
         refused("one entry of length 8", Packets.lengths(1, 8).put(0, 2));
     }

@@ -16,11 +16,14 @@ public final class CurveEdgesTest {
         everyNumber();
         masterEntries();
         subbookOfAPart();
+        booksOfBothClasses();
+        twelvePoints();
         noBookIsZero();
         outInTheFlag();
         outInANumber();
         outInAnEntry();
         everyHeight();
+        endsAreSet();
         notSet();
         setTooFromNowOn();
         leftAndRight();
@@ -175,6 +178,57 @@ public final class CurveEdgesTest {
         }
     }
 
+    private static void booksOfBothClasses() {
+        CHECK.sentence("then for every part in order: v is 0, or, if its class is SPLIT, the entry that is read from the master book");
+        // Each of the four subbooks is a book of its own: words of 1, 2 and 3 bits, and no book.
+        Setup setup = new Setup();
+        setup.parts = new int[] {1, 0, 1};
+        setup.size = new int[] {2, 2};
+        setup.split = new int[] {1, 1};
+        setup.master = new int[] {1, 2};
+        setup.subbooks = new int[][] {{2, 0}, {1, 3}};
+        setup.places = new int[] {16, 8, 24, 4, 28, 12};
+        LacedSound x = with(Packets.format(2, 3, 3), Packets.evenBook(1, 1), Packets.evenBook(1, 2), Packets.evenBook(1, 3), setup.bits());
+        // Class 1: 1 is subbook 1, then 0. Class 0: 2 is subbook 0, then 1. Class 1: 6 is 0, then 1.
+        Bits sound = Packets.channel(Packets.shortSound(), 20, 20);
+        sound.word("001").word("110").word("1");
+        sound.word("10").word("11");
+        sound.word("110").word("0").word("101");
+        Talk.tell(x, Packets.channel(sound, 9, 9).word("00000").word("000000").word("00000"));
+        CHECK.due("block()", x.block(), 24);
+        CHECK.due("the channel behind", x.curve(1, 31), 9);
+        // 16: 20 and 6 is 23. 8: 21 and 1 is 20. 24: 22 and 3 is 20. 4: on the line of 20 and 20.
+        // 28: on the line of 20 and 20. 12: 21 and 5 is 18.
+        int[] places = {4, 8, 12, 16, 24, 28};
+        int[] due = {20, 20, 18, 23, 20, 20};
+        for (int k = 0; k < places.length; k++) {
+            CHECK.due("curve(0, " + places[k] + ")", x.curve(0, places[k]), due[k]);
+        }
+    }
+
+    private static void twelvePoints() {
+        CHECK.sentence("for each of its points in order");
+        Setup setup = onePart(0, 3, 2, 4, 6, 8, 10, 12, 14, 16, 18, 20, 22, 24);
+        setup.parts = new int[] {0, 0, 0};
+        setup.size[0] = 4;
+        LacedSound x = with(Packets.format(2, 3, 3), Packets.evenBook(1, 1), setup.bits());
+        Bits sound = Packets.channel(Packets.shortSound(), 20, 20).word("111111111111");
+        Talk.tell(x, Packets.channel(sound, 5, 5).word("000000000001"));
+        CHECK.due("block()", x.block(), 24);
+        // Each point is 1 below the line from the one before it to point 1.
+        int height = 20;
+        for (int k = 1; k <= 12; k++) {
+            int q = (20 - height) * 2 / (32 - 2 * k + 2);
+            height = height + q - 1;
+            CHECK.due("curve(0, " + 2 * k + ")", x.curve(0, 2 * k), height);
+        }
+        int[] due = {5, 5, 4, 4};
+        int[] places = {0, 22, 24, 31};
+        for (int k = 0; k < places.length; k++) {
+            CHECK.due("curve(1, " + places[k] + ")", x.curve(1, places[k]), due[k]);
+        }
+    }
+
     private static void noBookIsZero() {
         CHECK.sentence("the point's number is the entry that is read from that subbook, 0 if it is no book.");
         Setup setup = onePart(1, 3, 16);
@@ -278,6 +332,20 @@ public final class CurveEdgesTest {
         int[][] byHand = {{3, 5, 0}, {3, 6, 6}, {3, 4, 5}, {4, 7, 0}, {4, 6, 7}, {5, 5, 2}, {5, 6, 1}, {5, 7, 0}, {0, 1, 1}, {7, 1, 6}, {7, 2, 5}};
         for (int[] c : byHand) {
             CHECK.due("number " + c[1] + " at " + c[0], heightOf(c[1], c[0], 8), c[2]);
+        }
+    }
+
+    private static void endsAreSet() {
+        CHECK.sentence("HEIGHTS of the points: those of 0 and 1 are their numbers, and both are SET.");
+        LacedSound x = with(Packets.format(1, 1, 1), Packets.evenBook(1, 3), onePart(0, 0, 1, 2, 3).bits());
+        // A number of 0 counts as a height of points 0 and 1, and they are SET all the same.
+        int[][] ends = {{0, 0}, {0, 31}, {31, 0}, {31, 31}};
+        for (int[] pair : ends) {
+            Talk.tell(x, Packets.channel(Packets.shortSound(), pair[0], pair[1]).word("000").word("000").word("000"));
+            CHECK.due("point 0 of " + pair[0], x.curve(0, 0), pair[0]);
+            CHECK.due("point 1 of " + pair[1], x.curve(0, 4), pair[1]);
+            CHECK.due("behind point 1", x.curve(0, 7), pair[1]);
+            CHECK.due("half way", x.curve(0, 2), pair[0] > pair[1] ? 16 : (pair[0] + pair[1]) / 2);
         }
     }
 

@@ -3,7 +3,9 @@ public final class NewObjectTest {
     public static void main(String[] args) {
         Check check = new Check("NewObjectTest");
         LacedSound x = new LacedSound();
+        check.sentence("NONE = -1");
         check.due("NONE", LacedSound.NONE, -1);
+        check.sentence("no event, no packet in hand; no book, format or setup.");
         check.due("length()", x.length(), 0);
         check.due("wire(0)", x.wire(0), -1);
         check.due("amount()", x.amount(), -1);

@@ -91,7 +91,7 @@ public final class PacketEdgesTest {
     }
 
     private static void everyFirstByte() {
-        CHECK.sentence("Its first bit is 0: a SOUND packet, which goes on with the next bit. Else its first byte says");
+        CHECK.sentence("Its first bit is 0: a SOUND packet, which goes on with the next bit. Else its first byte says: 1 a FORMAT packet, 3 a BOOK packet, 5 a SETUP packet, which go on behind it; any other is refused.");
         for (int first = 0; first < 256; first++) {
             int due = first % 2 == 0 ? 2 : first == 1 || first == 3 || first == 5 ? first : 0;
             CHECK.due("a packet that begins with " + first, take(live(), first, 0, 0, 0, 0, 0, 0, 0, 0), due);
@@ -140,10 +140,13 @@ public final class PacketEdgesTest {
         CHECK.due("block()", x.block(), 0);
         CHECK.due("curve(0, 3)", x.curve(0, 3), 0);
         CHECK.due("curve(0, 4)", x.curve(0, 4), -1);
+        Talk.tell(x, Packets.longSound(0).put(0, 1).put(-1, 27));
+        CHECK.due("curve(0, 7) of a long block", x.curve(0, 7), 0);
+        CHECK.due("curve(0, 8) of a long block", x.curve(0, 8), -1);
     }
 
     private static void inHandNoMore() {
-        CHECK.sentence("Decodes the packet in hand, which is in hand no more, also when it is refused");
+        CHECK.sentence("Decodes the packet in hand, which is in hand no more, also when it is refused: answers 1 for a FORMAT, 2 for a SOUND, 3 for a BOOK, 5 for a SETUP packet, 0 when it is refused.");
         int[] firsts = {1, 0, 3, 5, 7};
         int[] due = {1, 2, 3, 5, 0};
         for (int k = 0; k < firsts.length; k++) {
@@ -251,7 +254,7 @@ public final class PacketEdgesTest {
     }
 
     private static void channelsOfAFormat() {
-        CHECK.sentence("FORMAT: 1 bit, the channels less 1");
+        CHECK.sentence("FORMAT: 1 bit, the channels less 1; 2 bits a; 2 bits b.");
         for (int channels = 1; channels <= 2; channels++) {
             LacedSound x = new LacedSound();
             Talk.tell(x, Packets.evenBook(1, 1));

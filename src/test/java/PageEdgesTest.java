@@ -18,6 +18,7 @@ public final class PageEdgesTest {
         greatestPage();
         checkOfKnownPages();
         checkBytes();
+        lowestByteOfCheckFirst();
         everyBit();
         openUntilTheLastByte();
         badAtOnce();
@@ -156,7 +157,7 @@ public final class PageEdgesTest {
     }
 
     private static void checkOfKnownPages() {
-        CHECK.sentence("after all bytes of the page (with 0 for each of the four bytes of CHECK) have gone through it");
+        CHECK.sentence("CHECK is a register of 32 bits, 0 at first, after all bytes of the page (with 0 for each of the four bytes of CHECK) have gone through it");
         LacedSound x = new LacedSound();
         x.flush(0, false);
         x.add(0x030201, 3);
@@ -178,10 +179,16 @@ public final class PageEdgesTest {
                 skipped("bit " + bit + " of byte " + k + " of CHECK", x, page.size());
             }
         }
+    }
+
+    private static void lowestByteOfCheckFirst() {
+        CHECK.sentence("CHECK, four bytes, the lowest first");
+        List<Integer> page = Pages.counting(Pages.FIRST, 3, 0, 9, 2);
         List<Integer> reversed = new ArrayList<>(page);
         for (int k = 0; k < 4; k++) {
             reversed.set(9 + k, page.get(12 - k));
         }
+        CHECK.due("the lowest byte of CHECK first", on(page).next(), 3);
         skipped("the highest byte of CHECK first", on(reversed), page.size());
     }
 
@@ -282,6 +289,11 @@ public final class PageEdgesTest {
         Pages.put(x, Pages.counting(Pages.FIRST | Pages.LAST, 3, 0, 9));
         skipped("up to a GOOD place", x, 1);
         CHECK.due("END", x.next(), 4);
+        // The last byte that was read is no place to begin a page at, though 97, 76, 83 follow it.
+        LacedSound y = on(Pages.of(Pages.FIRST, 3, 0, 9, List.of(1), List.of(76)));
+        CHECK.due("a page that ends with 76", y.next(), 3);
+        y.raw(0x534C61, 3);
+        skipped("97, 76, 83 behind it", y, 3);
         // What is skipped in two calls is two events.
         x.raw(0, 3);
         skipped("three bytes", x, 3);

@@ -31,6 +31,7 @@ public final class ReaderEdgesTest {
         eventsNotGivenYet();
         pagesWithoutEvents();
         zeroIsNoEvent();
+        noEventYet();
         inHand();
         amountOfEnd();
         amountOfStranger();
@@ -197,7 +198,7 @@ public final class ReaderEdgesTest {
     }
 
     private static void noGapWhereExpected() {
-        CHECK.sentence("NUMBER is not that of the page of s read before, plus 1 (0 after 255): an event GAP");
+        CHECK.sentence("If s was known before the page, the page is not FIRST, and NUMBER is not that of the page of s read before, plus 1 (0 after 255): an event GAP");
         LacedSound x = new LacedSound();
         for (int number : new int[] {253, 254, 255, 0, 1}) {
             put(x, 0, 4, number, 3);
@@ -270,7 +271,7 @@ public final class ReaderEdgesTest {
     }
 
     private static void continuedPassesOver() {
-        CHECK.sentence("its segments up to the first one below 15, that one included, or all of them if there is none such, are passed over: one piece");
+        CHECK.sentence("its segments up to the first one below 15, that one included, or all of them if there is none such, are passed over: one piece, however many segments.");
         for (int end = 0; end < 6; end++) {
             Integer[] lacings = {15, 15, 15, 15, 15, 15};
             lacings[end] = end * 2;
@@ -299,7 +300,7 @@ public final class ReaderEdgesTest {
     }
 
     private static void continuedWithoutSegment() {
-        CHECK.sentence("there is no unfinished packet of s, and the page has a segment");
+        CHECK.sentence("If it is CONTINUED, there is no unfinished packet of s, and the page has a segment, then");
         LacedSound x = known(false);
         put(x, CONTINUED, 4, 1, 3);
         none("no segment and no packet", x);
@@ -312,7 +313,7 @@ public final class ReaderEdgesTest {
     }
 
     private static void fifteenGoesOn() {
-        CHECK.sentence("each goes on with the unfinished packet, or begins one; one below 15 finishes it: an event PACKET.");
+        CHECK.sentence("The segments not passed over are taken in order: each goes on with the unfinished packet, or begins one; one below 15 finishes it: an event PACKET.");
         for (int lacing = 0; lacing <= 15; lacing++) {
             LacedSound x = new LacedSound();
             put(x, FIRST, 4, 0, 3, lacing, 1);
@@ -511,6 +512,27 @@ public final class ReaderEdgesTest {
         CHECK.due("take()", x.take(), 0);
         CHECK.due("amount() stays with a take", x.amount(), 2);
         CHECK.due("time() stays with a take", x.time(), 3);
+    }
+
+    private static void noEventYet() {
+        CHECK.sentence("NONE when there was no event (a 0 of next() leaves the latest one).");
+        LacedSound x = new LacedSound();
+        CHECK.due("amount() of a new object", x.amount(), -1);
+        none("an empty wire", x);
+        CHECK.due("amount() behind a 0", x.amount(), -1);
+        put(x, FIRST, 4, 0, 3);
+        none("a page without an event", x);
+        CHECK.due("amount() behind a page without an event", x.amount(), -1);
+        x.raw(0, 2);
+        event("SKIPPED", x, 1, 2, -1, -1);
+        none("behind it", x);
+        CHECK.due("amount() stays", x.amount(), 2);
+        put(x, 0, 4, 1, 3);
+        none("a page without an event", x);
+        CHECK.due("amount() stays", x.amount(), 2);
+        // An amount of 0 is none of these.
+        put(x, 0, 4, 2, 3, 0);
+        event("an empty packet", x, 3, 0, 4, 3);
     }
 
     private static void inHand() {

@@ -15,6 +15,7 @@ public final class SetupEdgesTest {
         booksThatAreNotThere();
         parts();
         classWithoutAPart();
+        placesOfPoints();
         pointsAtOnePlace();
         modes();
         endBelowBegin();
@@ -223,6 +224,26 @@ public final class SetupEdgesTest {
         return setup;
     }
 
+    private static void placesOfPoints() {
+        CHECK.sentence("POINTS 0 and 1 are at 0 and at 2^(r + 2); then for the parts in order as many further points as the size of its class, each at a place of r + 2 bits");
+        for (int r = 0; r < 4; r++) {
+            for (int place = 1; place < 4 << r; place++) {
+                LacedSound x = new LacedSound();
+                Talk.tell(x, Packets.format(1, 3, 3));
+                Talk.tell(x, Packets.evenBook(1, 1));
+                Setup setup = pointsAt(r, place);
+                setup.subbooks[0][0] = 1;
+                CHECK.due("a point at " + place + ", r " + r, take(x, setup.bits()), 5);
+                // 20 on the line, 1 is 19: the curve falls to it, and rises up to point 1.
+                take(x, Packets.channel(Packets.shortSound(), 20, 20).word("1"));
+                for (int at = 0; at < 32; at++) {
+                    int due = at >= 4 << r || at == 0 ? 20 : at < place ? 20 - at / place : at == place ? 19 : 19 + (at - place) / ((4 << r) - place);
+                    CHECK.due("curve(0, " + at + ") with a point at " + place, x.curve(0, at), due);
+                }
+            }
+        }
+    }
+
     private static void pointsAtOnePlace() {
         CHECK.sentence("refused if two points are at one place.");
         for (int r = 0; r < 4; r++) {
@@ -390,7 +411,7 @@ public final class SetupEdgesTest {
         LacedSound x = withBooks(1, 1);
         int[] widths = {5, 4, 4, 3};
         for (int round = 0; round < 8; round++) {
-            Setup setup = new Setup();
+            Setup setup = pointsAt(3, 9, 30);
             setup.g = 3 - round % 4;
             CHECK.due("SETUP " + round, Talk.tell(x, setup.bits()), 5);
             int width = widths[setup.g];

@@ -30,6 +30,7 @@ final class Twins {
         new Look("the streams that are known", Twins::streams),
         new Look("a short block to come", (x, log) -> sound(x, log, 4)),
         new Look("a long block to come", (x, log) -> sound(x, log, 2)),
+        new Look("a book to come", Twins::book),
         new Look("a setup to come, in parts of 4", (x, log) -> setups(x, log, 4)),
         new Look("a setup to come, in parts of 3", (x, log) -> setups(x, log, 3)));
 
@@ -190,6 +191,19 @@ final class Twins {
         drain(x, log);
         log.addAll(List.of(deliver(x, noise(first)), x.block(), x.samples()));
         block(x, log);
+    }
+
+    /** A book with one used entry, and one that is ORDERED. */
+    private static void book(LacedSound x, List<Integer> log) {
+        makeRoom(x, log);
+        drain(x, log);
+        log.add(deliver(x, Packets.book(1, 3, 0).put(1, 1).put(0, 2).put(1, 1).put(0, 3).put(0, 2).bytes()));
+        log.add(deliver(x, Packets.book(2, 3, 1).put(0, 3).put(1, 2).put(2, 2).put(0, 2).bytes()));
+        for (int book = 0; book < 5; book++) {
+            for (int entry = 0; entry < 9; entry++) {
+                log.add(x.entry(book, entry));
+            }
+        }
     }
 
     /** Setups that lay each book's vectors open. */

@@ -7,6 +7,7 @@ public final class ValueEdgesTest {
     public static void main(String[] args) {
         zeroAtFirst();
         channelsThatAreOn();
+        rowsInOrder();
         rowsAndRuns();
         groups();
         lastGroup();
@@ -20,6 +21,7 @@ public final class ValueEdgesTest {
         justEnough();
         joinedPairs();
         joinedOn();
+        joinedLongest();
         joinedWithoutValues();
         valuesOutside();
         CHECK.end();
@@ -104,6 +106,23 @@ public final class ValueEdgesTest {
         }
     }
 
+    private static void rowsInOrder() {
+        CHECK.sentence("In pass 0 every row in order has at the beginning of each group an entry read from the kinds' book, v");
+        // Two rows of two parts in groups of one: kinds of both rows, values of both, and so again.
+        Setup setup = fives(0, 2);
+        setup.has = 3;
+        setup.books = new int[] {1, 1};
+        LacedSound x = with(Packets.format(2, 0, 0), Packets.lengths(1, 1).put(0, 2), counting(1), setup.bits());
+        Bits sound = flat(flat(Packets.shortSound()));
+        sound.put(0, 2).word("001").word("010").put(0, 2).word("011").word("100");
+        // Pass 1 has no kinds to read: part 0 of both rows, part 1 of both rows.
+        sound.word("000").word("001").word("010").word("011");
+        tell(x, sound, 0);
+        CHECK.due("block()", x.block(), 24);
+        valuesAre("two rows", x, 0, 2 + 1, 4 + 3, 0, 0);
+        valuesAre("two rows", x, 1, 3 + 2, 5 + 4, 0, 0);
+    }
+
     private static void rowsAndRuns() {
         CHECK.sentence("Let lo and hi be BEGIN and END, or the number of cells of a row if that is less. The parts of a row are the (hi - lo) / (part size) (rounded down) runs of cells that follow one another from lo on.");
         for (int mode = 0; mode < 3; mode++) {
@@ -175,6 +194,12 @@ public final class ValueEdgesTest {
     }
 
     private static void lastGroup() {
+        CHECK.sentence("the parts are gone through in groups of as many as the dimension of the kinds' book (the last group may have fewer).");
+        for (int d = 1; d <= 4; d++) {
+            for (int parts = 0; parts <= 9; parts++) {
+                group(d, 5, parts);
+            }
+        }
         CHECK.sentence("for a last group with fewer parts this is done as for a full one, and the kinds of the parts that are not there count for nothing.");
         for (int d = 2; d <= 4; d++) {
             for (int v = 0; v < 8; v++) {
@@ -228,29 +253,35 @@ public final class ValueEdgesTest {
 
     private static void booksOfPasses() {
         CHECK.sentence("if the part's kind has a book in this pass, then as many entries as part size / dimension are read");
-        for (int has = 0; has < 16; has++) {
-            Setup setup = new Setup();
-            setup.end = 2;
-            setup.kinds = 2;
-            setup.has = has;
-            int[] books = {1, 2, 3, 1};
-            setup.books = new int[Integer.bitCount(has)];
-            int at = 0;
-            for (int k = 0; k < 4; k++) {
-                if ((has >> k & 1) == 1) {
-                    setup.books[at] = books[k];
-                    at++;
-                }
-            }
-            LacedSound x = with(Packets.format(1, 0, 0), Packets.evenBook(1, 1), always(1, 0, 0), always(3, 7, 1), always(2, 7, 14), setup.bits());
-            Bits sound = flat(Packets.shortSound()).word("0").put(0, has & 1).word("1").put(0, has >> 2 & 1).put(0, has >> 1 & 1).put(0, has >> 3 & 1);
-            tell(x, sound, 0);
-            String what = "books " + has;
-            CHECK.due(what + ": block()", x.block(), 8);
-            int first = (has & 1) + 10 * (has >> 1 & 1);
-            int second = 100 * (has >> 2 & 1) + (has >> 3 & 1);
-            valuesAre(what, x, 0, first, second, 0, 0);
+        for (int k = 0; k < 48; k++) {
+            passes(k % 16, k / 16);
         }
+    }
+
+    /** Two parts, of kind 0 and 1, with books 1, 2 for the one, 3, 1 for the other. */
+    private static void passes(int has, int mode) {
+        Setup setup = new Setup();
+        setup.mode = mode;
+        setup.end = 2;
+        setup.kinds = 2;
+        setup.has = has;
+        int[] books = {1, 2, 3, 1};
+        setup.books = new int[Integer.bitCount(has)];
+        int at = 0;
+        for (int k = 0; k < 4; k++) {
+            if ((has >> k & 1) == 1) {
+                setup.books[at] = books[k];
+                at++;
+            }
+        }
+        LacedSound x = with(Packets.format(1, 0, 0), Packets.evenBook(1, 1), always(1, 0, 0), always(3, 7, 1), always(2, 7, 14), setup.bits());
+        Bits sound = flat(Packets.shortSound()).word("0").put(0, has & 1).word("1").put(0, has >> 2 & 1).put(0, has >> 1 & 1).put(0, has >> 3 & 1);
+        tell(x, sound, 0);
+        String what = "books " + has;
+        CHECK.due(what + ": block()", x.block(), 8);
+        int first = (has & 1) + 10 * (has >> 1 & 1);
+        int second = 100 * (has >> 2 & 1) + (has >> 3 & 1);
+        valuesAre(what, x, 0, first, second, 0, 0);
     }
 
     /** A book of eight entries of three bits, with the components 0, 1, 2, .. one after the other. */
@@ -447,6 +478,19 @@ public final class ValueEdgesTest {
         CHECK.due("block()", x.block(), 8 + 32);
         valuesAre("channel 1 is OUT", x, 0, 5, 5, 5, 5, 5, 5, 5, 5);
         valuesAre("channel 1 is OUT", x, 1, 5, 5, 5, 5, 5, 5, 5, 5);
+    }
+
+    private static void joinedLongest() {
+        CHECK.sentence("At last, if JOINED, at each place");
+        Setup setup = fives(31, 32);
+        setup.joined = 1;
+        LacedSound x = with(Packets.format(2, 3, 3), Packets.lengths(1, 1).put(0, 2), always(5, 0, 0), setup.bits());
+        tell(x, flat(flat(Packets.shortSound())).put(0, 4), 0);
+        CHECK.due("block()", x.block(), 24);
+        for (int place = 0; place < 32; place++) {
+            CHECK.due("value(0, " + place + ")", x.value(0, place), place == 31 ? 5 : 0);
+            CHECK.due("value(1, " + place + ")", x.value(1, place), 0);
+        }
     }
 
     private static void joinedWithoutValues() {

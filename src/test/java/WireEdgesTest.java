@@ -8,6 +8,8 @@ public final class WireEdgesTest {
     private static final int MOST = Integer.MAX_VALUE;
 
     public static void main(String[] args) {
+        everyByte();
+        thousandBytes();
         readPlaceAtFirst();
         rawAppends();
         rawRefusesCounts();
@@ -54,6 +56,39 @@ public final class WireEdgesTest {
         x.raw(0, 5);
         x.raw(0x614CL, 2);
         CHECK.due("next()", x.next(), 1);
+    }
+
+    private static void everyByte() {
+        CHECK.sentence("A byte is 0 .. 255.");
+        LacedSound x = new LacedSound();
+        for (int octet = 0; octet < 256; octet++) {
+            CHECK.due("raw", x.raw(octet - 256 * (octet % 3), 1), octet + 1);
+        }
+        for (int octet = 0; octet < 256; octet++) {
+            CHECK.due("wire(" + octet + ")", x.wire(octet), octet);
+        }
+    }
+
+    private static void thousandBytes() {
+        CHECK.sentence("The WIRE is a list of at most 1000 bytes at places 0, 1, ..");
+        List<Consumer<LacedSound>> ways = List.of(x -> x.raw(0xFF, 1), x -> x.flush(1, false), x -> x.send(2, 6));
+        int[] sizes = {1, 14, 20};
+        for (int k = 0; k < sizes.length; k++) {
+            LacedSound x = new LacedSound();
+            for (int segment = 0; segment < 5; segment++) {
+                x.send(2, segment);
+            }
+            Talk.fillWire(x, 1000 - sizes[k]);
+            CHECK.due("wire(999) ahead of it", x.wire(999), -1);
+            ways.get(k).accept(x);
+            CHECK.due("length() with " + sizes[k] + " bytes more", x.length(), 1000);
+            CHECK.due("wire(999)", x.wire(999) >= 0, true);
+            CHECK.due("wire(1000)", x.wire(1000), -1);
+            for (Consumer<LacedSound> way : ways) {
+                way.accept(x);
+                CHECK.due("length() stays", x.length(), 1000);
+            }
+        }
     }
 
     private static void readPlaceAtFirst() {

@@ -11,9 +11,11 @@ public final class WriterEdgesTest {
         addsLowestBytes();
         addRefusesCounts();
         addRefusesMoreThan64();
+        fourStreams();
         segmentsOfEverySize();
         sendOfNothing();
         sixGoOut();
+        restWaits();
         nothingAtHandThen();
         sendRefusesStreams();
         sendRefusesTimes();
@@ -95,8 +97,22 @@ public final class WriterEdgesTest {
         }
     }
 
+    private static void fourStreams() {
+        CHECK.sentence("It has four streams 0 .. 3 (their SERIAL).");
+        LacedSound x = new LacedSound();
+        for (int stream = 0; stream < 4; stream++) {
+            CHECK.due("send to " + stream, x.send(stream, 9), 0);
+            CHECK.due("flush of " + stream, x.flush(stream, false), 1);
+            CHECK.due("SERIAL", x.wire(15 * stream + 5), stream);
+        }
+        CHECK.due("send to 4", x.send(4, 9), -1);
+        CHECK.due("flush of 4", x.flush(4, false), -1);
+        CHECK.due("send to -1", x.send(-1, 9), -1);
+        CHECK.due("flush of -1", x.flush(-1, false), -1);
+    }
+
     private static void segmentsOfEverySize() {
-        CHECK.sentence("A packet of m bytes makes m / 15 segments of 15 bytes and one of the remaining 0 .. 14");
+        CHECK.sentence("A packet is a list of 0 .. 64 bytes. A packet of m bytes makes m / 15 segments of 15 bytes and one of the remaining 0 .. 14, so that only its last segment is below 15.");
         for (int m = 0; m <= 64; m++) {
             LacedSound x = new LacedSound();
             List<Integer> bytes = row(100, m);
@@ -115,7 +131,7 @@ public final class WriterEdgesTest {
     }
 
     private static void sendOfNothing() {
-        CHECK.sentence("The bytes at hand (also if there are none) are a packet, with a time, of a stream of the writer");
+        CHECK.sentence("The bytes at hand (also if there are none) are a packet, with a time, of a stream of the writer: its segments wait behind those that wait already");
         LacedSound x = new LacedSound();
         CHECK.due("send of none", x.send(0, 3), 0);
         x.add(9, 1);
@@ -150,8 +166,39 @@ public final class WriterEdgesTest {
         }
     }
 
+    private static void restWaits() {
+        CHECK.sentence("as long as six or more wait, the first six go out in a page");
+        for (int waiting = 1; waiting <= 5; waiting++) {
+            for (int size = 60; size <= 64; size++) {
+                LacedSound x = new LacedSound();
+                List<Integer> lacings = new ArrayList<>();
+                List<Integer> bytes = new ArrayList<>();
+                for (int k = 0; k < waiting; k++) {
+                    Talk.addAll(x, row(10 * k, k));
+                    x.send(1, k);
+                    lacings.add(k);
+                    bytes.addAll(row(10 * k, k));
+                }
+                Talk.addAll(x, row(100, size));
+                bytes.addAll(row(100, size));
+                lacings.addAll(List.of(15, 15, 15, 15, size - 60));
+                String what = size + " bytes behind " + waiting;
+                CHECK.due(what + ": send", x.send(1, 77), 1);
+                int out = lacings.subList(0, 6).stream().mapToInt(k -> k).sum();
+                int time = waiting == 1 ? 77 : waiting - 1;
+                List<Integer> page = Pages.of(Pages.FIRST, 1, 0, time, lacings.subList(0, 6), bytes.subList(0, out));
+                wireIs(what + ": the page", x, 0, page);
+                CHECK.due(what + ": flush", x.flush(1, false), waiting - 1);
+                List<Integer> rest = lacings.subList(6, lacings.size());
+                int flags = rest.isEmpty() ? 0 : Pages.CONTINUED;
+                List<Integer> last = Pages.of(flags, 1, 1, rest.isEmpty() ? 65535 : 77, rest, bytes.subList(out, bytes.size()));
+                wireIs(what + ": the rest", x, page.size(), last);
+            }
+        }
+    }
+
     private static void nothingAtHandThen() {
-        CHECK.sentence("No bytes are at hand then.");
+        CHECK.sentence("No bytes are at hand then. Answers how many pages went out.");
         LacedSound x = new LacedSound();
         Talk.fill(x, 64);
         x.send(0, 0);
