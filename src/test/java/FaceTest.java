@@ -33,7 +33,7 @@ public final class FaceTest {
         classesInside();
         words(Files.readString(Path.of(path)));
         room();
-        objectsInCalls();
+        noObjectsInCalls();
         CHECK.end();
     }
 
@@ -68,7 +68,7 @@ public final class FaceTest {
 
     private static void classesInside() {
         Class<?>[] inside = LacedSound.class.getDeclaredClasses();
-        CHECK.due("the file has some twelve classes at most", inside.length < 14, true);
+        CHECK.due("the file has twelve classes at most", inside.length < 12, true);
         for (Class<?> type : inside) {
             CHECK.due(type + " is static", Modifier.isStatic(type.getModifiers()), true);
             for (Method method : type.getDeclaredMethods()) {
@@ -83,14 +83,14 @@ public final class FaceTest {
                 fields += isStatic ? 0 : 1;
                 CHECK.due(field + " is final if it is static", !isStatic || Modifier.isFinal(field.getModifiers()), true);
             }
-            CHECK.due(type + " has some twenty fields at most", fields <= 24, true);
+            CHECK.due(type + " has twenty fields at most", fields <= 20, true);
         }
     }
 
     private static void words(String source) {
         String code = source.replaceAll("(?s)/\\*.*?\\*/", "").replaceAll("//[^\n]*", "");
         String[] barred = {"throw", "throws", "try", "catch", "synchronized", "assert", "package", "volatile", "native",
-            "System.out", "System.nanoTime", "System.currentTimeMillis", "Thread", "Random", "::"};
+            "System.out", "System.nanoTime", "System.currentTimeMillis", "Thread", "Random", "->", "::"};
         for (String word : barred) {
             boolean letters = Character.isLetter(word.charAt(0));
             String pattern = letters ? "\\b" + Pattern.quote(word) + "\\b" : Pattern.quote(word);
@@ -105,7 +105,7 @@ public final class FaceTest {
             boolean opens = line.matches(" +(private|public) .*\\) \\{");
             length = opens ? 1 : length + 1;
             if (line.matches(" {4}( {4})?\\}")) {
-                CHECK.due("a method of " + length + " lines is short", length <= 65 || line.startsWith("    }"), true);
+                CHECK.due("a method of " + length + " lines is short", length <= 60 || line.startsWith("    }"), true);
             }
         }
     }
@@ -140,15 +140,12 @@ public final class FaceTest {
             }
         }
         System.out.println("FaceTest: an object holds " + seen.size() + " objects and arrays, " + cells + " fields and elements");
-        CHECK.due("the objects of a new object are few", seen.size() <= 1000, true);
-        CHECK.due("the cells of a new object are few", cells <= 14000, true);
+        CHECK.due("the objects of a new object are few", seen.size() <= 200, true);
+        CHECK.due("the cells of a new object are few", cells <= 10000, true);
     }
 
-    /**
-     * What some hundred calls make, after a first round, lies far below the room of a run. (This
-     * program's calls make nothing at all; the limit is what the rules leave to any.)
-     */
-    private static void objectsInCalls() {
+    /** After a first round, a round of all calls makes no object at all. */
+    private static void noObjectsInCalls() {
         var threads = (com.sun.management.ThreadMXBean) ManagementFactory.getThreadMXBean();
         long made = 0;
         for (int round = 0; round < 3; round++) {
@@ -158,7 +155,7 @@ public final class FaceTest {
             made = threads.getCurrentThreadAllocatedBytes() - before;
         }
         System.out.println("FaceTest: some hundred calls made " + made + " bytes of objects");
-        CHECK.due("the calls make few objects", made < 5_000_000, true);
+        CHECK.due("the calls make no objects", made < 1000, true);
     }
 
     private static void allCalls(LacedSound x) {
