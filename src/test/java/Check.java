@@ -11,9 +11,9 @@ final class Check {
     }
 
     /** The words of the document that the next answers belong to. */
-    void sentence(String words) {
-        sentence = " \"" + words + "\"";
-        sentences++;
+    void sentence(String... words) {
+        sentence = " \"" + String.join("\" and \"", words) + "\"";
+        sentences += words.length;
     }
 
     void due(String what, long got, long want) {

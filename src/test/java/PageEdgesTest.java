@@ -302,7 +302,7 @@ public final class PageEdgesTest {
     }
 
     private static void skipToTheEnd() {
-        CHECK.sentence("SKIPPED: how many places the read place went on.");
+        CHECK.sentence("Of the latest event: SKIPPED: how many places the read place went on.");
         for (int n : new int[] {1, 2, 13, 14, 999, 1000}) {
             LacedSound x = new LacedSound();
             Talk.fillWire(x, n);

@@ -135,6 +135,14 @@ public final class SetupEdgesTest {
             aPart(s, 1, 0);
             s.subbooks[0][0] = n;
         }));
+        for (int sub = 0; sub < 2; sub++) {
+            int which = sub;
+            spots.add(new Spot("subbook " + sub + " of a class without a part, SPLIT", (s, n) -> {
+                aPart(s, 1, 0);
+                s.split[0] = 1;
+                s.subbooks[0][which] = n;
+            }));
+        }
         return spots;
     }
 

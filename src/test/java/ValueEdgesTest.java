@@ -21,6 +21,7 @@ public final class ValueEdgesTest {
         justEnough();
         joinedPairs();
         joinedOn();
+        joinedBehindOut();
         joinedLongest();
         joinedWithoutValues();
         valuesOutside();
@@ -478,6 +479,73 @@ public final class ValueEdgesTest {
         CHECK.due("block()", x.block(), 8 + 32);
         valuesAre("channel 1 is OUT", x, 0, 5, 5, 5, 5, 5, 5, 5, 5);
         valuesAre("channel 1 is OUT", x, 1, 5, 5, 5, 5, 5, 5, 5, 5);
+    }
+
+    /** Channel 0 and 1 of the block before the last step, as far as so many bits reach. */
+    private static int[][] partsWithin(int bits, int mode, int partSize) {
+        int[][] values = new int[2][8];
+        int rows = mode == 2 ? 1 : 2;
+        int parts = 16 / rows / partSize;
+        int left = bits;
+        for (int pass = 0; pass < 2; pass++) {
+            for (int part = 0; part < parts; part++) {
+                left -= pass == 0 ? rows : 0;
+                for (int k = 0; k < rows * partSize; k++) {
+                    left--;
+                    if (left < 0) {
+                        return values;
+                    }
+                    int cell = part * partSize + k % partSize;
+                    int channel = mode == 2 ? cell % 2 : k / partSize;
+                    values[channel][mode == 2 ? cell / 2 : cell] += pass == 0 ? 5 : -7;
+                }
+            }
+        }
+        return values;
+    }
+
+    private static void joinedBehindOut() {
+        CHECK.sentence("A read that is OUT ends all of this; what was added before stays. At last, if JOINED, at each place, with m the value of channel 0 and a that of channel 1 (both ON or not):");
+        for (int mode = 0; mode < 3; mode++) {
+            for (int partSize = 1; partSize <= 8; partSize *= 2) {
+                Setup setup = fives(0, 63);
+                setup.mode = mode;
+                setup.partSize = partSize;
+                setup.joined = 1;
+                setup.has = 3;
+                setup.books = new int[] {1, 2};
+                LacedSound x = with(Packets.format(2, 1, 1), Packets.lengths(1, 1).put(0, 2), always(5, 0, 0), always(-7, 0, 0), setup.bits());
+                // 14 bits, then a bit for each kind and 32 for the values of both passes.
+                int needed = 32 + 16 / partSize;
+                Bits sound = flat(Packets.shortSound()).put(0, 1).put(0, 30).put(0, 28);
+                for (int bytes = 2; bytes <= 9; bytes++) {
+                    int bits = 8 * bytes - 14;
+                    String what = "MODE " + mode + ", parts of " + partSize + ", " + bytes + " bytes";
+                    tell(x, sound, 9 - bytes);
+                    CHECK.due(what + ": block()", x.block(), bits < needed ? 8 + 32 : 8);
+                    int[][] before = partsWithin(bits, mode, partSize);
+                    for (int k = 0; k < 8; k++) {
+                        int m = before[0][k];
+                        int a = before[1][k];
+                        CHECK.due(what + ": value(0, " + k + ")", x.value(0, k), a > 0 ? m : m > 0 ? m + a : m - a);
+                        CHECK.due(what + ": value(1, " + k + ")", x.value(1, k), a <= 0 ? m : m > 0 ? m - a : m + a);
+                    }
+                }
+            }
+        }
+        // By hand: parts 0 and 1 of both rows, and the kinds of part 2; 5 and 5 become 5 and 0.
+        Setup setup = fives(0, 63);
+        setup.joined = 1;
+        LacedSound x = with(Packets.format(2, 1, 1), Packets.lengths(1, 1).put(0, 2), always(5, 0, 0), setup.bits());
+        tell(x, flat(Packets.shortSound()).put(0, 11), 0);
+        CHECK.due("block()", x.block(), 8 + 32);
+        valuesAre("part 2 is OUT", x, 0, 5, 5, 0, 0, 0, 0, 0, 0);
+        valuesAre("part 2 is OUT", x, 1, 0, 0, 0, 0, 0, 0, 0, 0);
+        // Channel 1 is OUT: nothing is added, and 0 and 0 stay.
+        tell(x, flat(Packets.shortSound()).put(1, 3), 0);
+        CHECK.due("block()", x.block(), 8 + 32);
+        valuesAre("channel 1 is OUT", x, 0, 0, 0, 0, 0, 0, 0, 0, 0);
+        valuesAre("channel 1 is OUT", x, 1, 0, 0, 0, 0, 0, 0, 0, 0);
     }
 
     private static void joinedLongest() {
